@@ -223,6 +223,7 @@ public final class PromisesTest {
         due(8, "broad", u.bow(1, 0, 0, 1), 127);
         u.rule(2, 0);
         due(8, "none", u.bow(1, 0, 0, 0), SunRings.NONE);
+        halves();
         due(8, "none broad", u.bow(1, 0, 0, 1), SunRings.NONE);
         due(8, "none, top", u.bow(1, 0, 0, 2), -100000);
         due(8, "h 901", x.bow(1, 0, 901, 0), -1000000);
@@ -231,6 +232,23 @@ public final class PromisesTest {
         due(8, "colour 4", x.bow(1, 4, 0, 0), -1000000);
         due(8, "what 3", x.bow(1, 0, 0, 3), -1000000);
         due(8, "what -1", x.bow(1, 0, 0, -1), -1000000);
+    }
+
+    private static void halves() {
+        SunRings x = new SunRings();
+        x.rule(1, 100);
+        due(8, "faint", x.map(4, 0, 108), 2);
+        due(8, "half of it ahead", x.map(4, 0, 107), 1);
+        due(8, "half counts", x.bow(4, 0, 0, 1), 2);
+        due(8, "top of a far bow", x.bow(4, 0, 0, 2), 720);
+        for (int k = 1; k < 10; k++) {
+            x.table(0, k, 50 * k);
+        }
+        x.rule(1, 0);
+        x.rule(2, 50);
+        due(8, "all rays at 179 and 180", x.bow(1, 0, 0, 1), 2);
+        due(8, "the brighter of two", x.bow(1, 0, 0, 0), 179);
+        due(7, "degree 180 has light", x.map(1, 0, 180) > 0 ? 1 : 0, 1);
     }
 
     private static void dark() {
@@ -273,6 +291,7 @@ public final class PromisesTest {
         due(12, "ordinary", x.turned(900, 0, 682), 464);
         due(12, "no outside", x.turned(600, 0, 0), -10000);
         due(12, "s below 0", x.turned(200, 0, 900), -10000);
+        due(12, "s 0", x.turned(200, 0, 268), 68);
         due(12, "just out", x.turned(996, 0, 900), 804);
         due(12, "just not", x.turned(997, 0, 900), -10000);
         due(12, "colour shuts it", x.turned(996, 1, 900), -10000);
@@ -296,6 +315,13 @@ public final class PromisesTest {
         }
         x.table(1, 9, 100);
         due(13, "another table", x.ring(200, 0), 1600);
+        for (int k = 9; k >= 1; k--) {
+            x.table(1, k, 100 * k);
+        }
+        due(13, "no bending", x.ring(600, 0), 0);
+        due(13, "no bending, beyond 900", x.ring(1200, 0), 0);
+        x.table(1, 1, 0);
+        due(13, "flat at first", x.ring(200, 0), 0);
     }
 
     private static void light() {
@@ -455,6 +481,23 @@ public final class PromisesTest {
         x.wedge(3, 600);
         x.rule(4, 0);
         due(20, "without sway", x.never(), 1 | 2 | 4 | 32);
+        neverButAtTheTop();
+    }
+
+    /** A ring at 900: its arc below is there with the sun at 900 alone, its arc above with the sun at 0. */
+    private static void neverButAtTheTop() {
+        SunRings x = new SunRings();
+        for (int k = 1; k < 9; k++) {
+            x.table(1, k, 0);
+        }
+        x.table(1, 9, 450);
+        x.wedge(1, 900);
+        x.mark(1, 3, 900, 0);
+        x.mark(1, 2, 900, 0);
+        due(20, "at 900 and at 0", x.never(), 0);
+        due(21, "never both", x.heights(65535, -1), 0);
+        due(14, "arc above, h and d 900 together", x.light(6, 0, 0, 1), 2);
+        due(14, "arc below, h is d", x.light(6, 900, 0, 1), 3);
     }
 
     private static void heights() {
@@ -543,6 +586,8 @@ public final class PromisesTest {
         }
         due(25, "full", x.day(0, 0, 0), SunRings.FULL);
         due(25, "BAD ahead of FULL", x.day(0, 4, 0), SunRings.BAD);
+        due(30, "causes of 60 days", x.count(5), 16);
+        due(26, "1 by 60", x.odds(3, -60, 40, -1, 1), 60);
     }
 
     private static void odds() {
