@@ -235,6 +235,7 @@ public final class EdgesDaysTest {
             e.due("keep " + n, x.keep(), n);
         }
         x.rule(4, 4);
+        e.says("KEPT: how many. FULL.");
         e.due("the fourth", x.keep(), SunRings.FULL);
         e.due("still three", x.count(3), 3);
         e.due("as it is", x.rule(4, 5), 4);

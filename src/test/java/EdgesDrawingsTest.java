@@ -88,7 +88,7 @@ public final class EdgesDrawingsTest {
         e.due("still twelve", x.count(1), 12);
         e.due("all are met", x.never(), 0);
         e.due("by a circle", x.explains(8, 0), 1);
-        e.says("BAD; FULL.");
+        e.says("A MARK: how many. BAD; FULL.");
         e.due("BAD is ahead of FULL", x.mark(4, 1, 100, 0), SunRings.BAD);
     }
 
@@ -188,26 +188,33 @@ public final class EdgesDrawingsTest {
     }
 
     private static void setsAndHeights() {
-        e.says("1: a set of CAUSES (bits 0 to 15) EXPLAINS at h; 0. BAD.");
         SunRings x = ice();
-        for (int set : WRONG_SETS) {
+        x.cut(0, 0);
+        for (int n = 0; n < 4; n++) {
+            int set = WRONG_SETS[n], h = WRONG_HEIGHTS[n];
+            e.says("1: a set of CAUSES (bits 0 to 15) EXPLAINS at h; 0. BAD.");
             e.due("explains " + set, x.explains(set, 0), SunRings.BAD);
-            e.due("owed " + set, x.owed(set, 0), SunRings.BAD);
-            e.due("heights " + set, x.heights(set, -1), SunRings.BAD);
-            e.due("made " + set, x.made(set, 0), SunRings.BAD);
-        }
-        for (int h : WRONG_HEIGHTS) {
             e.due("explains at " + h, x.explains(1, h), SunRings.BAD);
+            e.says("THE FEWEST at h as bits. NONE; BAD.");
             e.due("fewest at " + h, x.fewest(h), SunRings.BAD);
+            e.says("OWED by a set at h: how many. BAD.");
+            e.due("owed " + set, x.owed(set, 0), SunRings.BAD);
             e.due("owed at " + h, x.owed(1, h), SunRings.BAD);
+            e.says("THE HEIGHTS of a set: how many (i = -1), the i-th (NONE). BAD.");
+            e.due("heights " + set, x.heights(set, -1), SunRings.BAD);
+            e.due("heights " + set + ", the first", x.heights(set, 0), SunRings.BAD);
+            e.says("1: THE CUT is MADE by a set at h; 0. BAD.");
+            e.due("made " + set, x.made(set, 0), SunRings.BAD);
             e.due("made at " + h, x.made(1, h), SunRings.BAD);
+            e.says("that MAKES THE CUT at h. NONE; BAD.");
             e.due("maker at " + h, x.maker(h), SunRings.BAD);
         }
+        e.says("1: a set of CAUSES (bits 0 to 15)");
         for (int h = 0; h <= 900; h += 900) {
             e.due("explains at " + h, x.explains(65535, h), 1);
             e.due("fewest at " + h, x.fewest(h), 0);
             e.due("owed at " + h, x.owed(1, h), 1);
-            e.due("made at " + h, x.made(0, h), 1);
+            e.due("made at " + h, x.made(65535, h), 1);
             e.due("maker at " + h, x.maker(h), 1);
         }
     }

@@ -188,6 +188,7 @@ public final class EdgesDropsTest {
         }
         e.due("degree 0", x.map(0, 0, 0), 24055);
         e.due("degree 180", x.map(4, 0, 180), 1);
+        e.says("THE MAP at a degree. BAD.");
         for (int out : new int[] {-1, 6, Edges.LOW, Edges.HIGH}) {
             e.due("mirrors " + out, x.map(out, 0, 90), SunRings.BAD);
         }
@@ -381,6 +382,7 @@ public final class EdgesDropsTest {
                 e.due("colour " + c + ", what " + what, x.bow(1, c, 0, what), BAD_BOW);
             }
         }
+        e.says("THE BOW: its degree (what = 0), how BROAD (1), its TOP with the sun at h (2).");
         for (int what : new int[] {-1, 3, Edges.LOW, Edges.HIGH}) {
             e.due("what " + what, x.bow(1, 0, 0, what), BAD_BOW);
             e.due("no bow, what " + what, x.bow(5, 0, 0, what), BAD_BOW);

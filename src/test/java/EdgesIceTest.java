@@ -88,7 +88,7 @@ public final class EdgesIceTest {
     }
 
     private static void wedgesThree() {
-        e.says("BAD; NO: it has that one; FULL: 3.");
+        e.says("A WEDGE of a KIND: how many. BAD; NO: it has that one; FULL: 3.");
         SunRings x = new SunRings();
         for (int kind = 0; kind <= 3; kind++) {
             e.due("first", x.wedge(kind, 300), 1);
@@ -101,6 +101,7 @@ public final class EdgesIceTest {
             }
             e.due("still three", x.count(0), 3 * kind + 3);
         }
+        e.says("WEDGES, three at most (angles 200 to 1200), of SORT 1.");
         e.due("all twelve were", x.noWedges(0) + x.noWedges(1) + x.noWedges(2) + x.noWedges(3), 12);
     }
 
@@ -183,7 +184,7 @@ public final class EdgesIceTest {
     }
 
     private static void turnedBad() {
-        e.says("NONE -10000: it is LOST inside; BAD -100000.");
+        e.says("How a ray that comes in at i is turned. NONE -10000: it is LOST inside; BAD -100000.");
         SunRings x = new SunRings();
         for (int w : new int[] {199, 1201, Edges.LOW, Edges.HIGH}) {
             e.due("w " + w, x.turned(w, 0, 400), BAD_TURN);
@@ -287,10 +288,11 @@ public final class EdgesIceTest {
     }
 
     private static void lyingHeight() {
-        e.says("not if h is above 600");
+        e.says("1: a spot (form 2), beside (side 1), from d2 to d2");
         SunRings x = ice(700);
         int d = x.ring(700, 0);
         lightIs("h 0", x, at(1, 0, 0), 2, 1, d, d);
+        e.says("not if h is above 600");
         lightIs("h 600", x, at(1, 600, 0), 2, 1, d + d / 5, d + d / 5);
         lights(x, 1, 600, 1);
         lights(x, 1, 601, 0);
