@@ -105,6 +105,15 @@ public final class EdgesDaysTest {
         e.due("a is b", x.odds(0, 0, 0, -1, 0), 0);
         e.due("a is b, a day with it", x.odds(0, -10, -10, -1, 0), 1);
         e.due("between days", x.odds(0, -19, -11, -1, 0), SunRings.NONE);
+        // Days with it that are one too cold or too warm have no part above, nor below.
+        SunRings beside = new SunRings();
+        beside.day(2, 0, 1);
+        beside.day(3, 0, 1);
+        beside.day(4, 0, 0);
+        beside.day(5, 0, 1);
+        e.due("3 to 4, above", beside.odds(0, 3, 4, -1, 0), 1);
+        e.due("3 to 4, below", beside.odds(0, 3, 4, -1, 1), 2);
+        e.due("4 alone, above", beside.odds(0, 4, 4, -1, 0), 0);
         SunRings ends = new SunRings();
         ends.day(-60, 0, 32768);
         ends.day(40, 0, 0);

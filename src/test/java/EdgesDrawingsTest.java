@@ -315,6 +315,14 @@ public final class EdgesDrawingsTest {
         e.due("no ice, but circles", bare.fewest(0), 8);
         bare.mark(2, -1, 0, 200);
         e.due("no ice, a spot", bare.fewest(0), SunRings.NONE);
+        // Swaying from 219 to 279: the last of all CAUSES alone.
+        SunRings last = new SunRings();
+        last.wedge(3, 600);
+        last.mark(2, 1, 279, 0);
+        e.due("CAUSE 15", last.fewest(0), 32768);
+        last.wipe();
+        last.mark(2, 1, 280, 0);
+        e.due("beyond its sway", last.fewest(0), SunRings.NONE);
     }
 
     private static void owedNothing() {
@@ -415,6 +423,15 @@ public final class EdgesDrawingsTest {
         e.due("ice of the last kind", x.never(), 0);
         x.noWedges(3);
         e.due("no ice again", x.never(), 1);
+        x.wedge(0, 600);
+        e.due("ice of the first kind: CAUSE 0 alone has it", x.never(), 0);
+        x.wipe();
+        x.noWedges(0);
+        x.wedge(3, 600);
+        x.mark(2, 1, 270, 0);
+        e.due("CAUSE 15 alone has it", x.never(), 0);
+        x.rule(4, 0);
+        e.due("without SWAY with the sun at 700, where no spot is", x.never(), 1);
     }
 
     private static void heights() {
@@ -440,6 +457,15 @@ public final class EdgesDrawingsTest {
         e.due("the last of these", x.heights(8, 12), 600);
         e.due("none, how many", x.heights(1, -1), 0);
         e.due("none, the first", x.heights(1, 0), SunRings.NONE);
+        // d is 450: below from the sun at 450 on, above up to it.
+        SunRings y = new SunRings();
+        y.wedge(0, 889);
+        y.mark(1, 3, 450, 0);
+        e.due("below, the first", y.heights(4, 0), 450);
+        e.due("below, 450 to 900", y.heights(4, -1), 10);
+        y.mark(1, 2, 450, 0);
+        e.due("both, 450 alone", y.heights(4, -1), 1);
+        e.due("both, the only one", y.heights(4, 0), 450);
     }
 
     private static void heightsNumbers() {
@@ -563,6 +589,11 @@ public final class EdgesDrawingsTest {
         x.cut(1, 1);
         e.due("a ring makes none", x.made(1, 0), 0);
         e.due("an arc makes none", x.made(4, 0), 0);
+        SunRings last = new SunRings();
+        last.wedge(3, 600);
+        last.cut(2, 1);
+        e.due("CAUSE 15, from 219 to 279", last.made(32768, 0), 1);
+        e.due("all but CAUSE 15", last.made(32767, 0), 0);
     }
 
     private static void madePlaces() {
@@ -656,5 +687,15 @@ public final class EdgesDrawingsTest {
         e.due("h 95", x.maker(95), 2);
         e.due("h 600", x.maker(600), 8);
         e.due("h 601", x.maker(601), SunRings.NONE);
+        // Spots at 0 and 1200, swaying from 0 to 300: place 0 is a gap, whatever stands there.
+        SunRings un = Edges.unbending(1);
+        un.wedge(0, 600);
+        un.rule(4, 300);
+        un.cut(8, 1);
+        e.due("a spot in the gap at place 0", un.maker(0), 2);
+        un.cut(2, 1);
+        e.due("two spots in the gap at place 0", un.maker(0), 2 | 8);
+        un.cut(0, 0);
+        e.due("place 0 told 0", un.maker(0), SunRings.NONE);
     }
 }

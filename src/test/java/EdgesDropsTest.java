@@ -16,6 +16,7 @@ public final class EdgesDropsTest {
         degreeToNineMore();
         mapEnds();
         mapRays();
+        mapColours();
         bowLowestOfSeveral();
         bowNone();
         broad();
@@ -25,6 +26,7 @@ public final class EdgesDropsTest {
         bowBad();
         darkWidest();
         darkBetween();
+        darkBeyond();
         darkNoAndBad();
         e.end();
     }
@@ -59,6 +61,10 @@ public final class EdgesDropsTest {
         for (int out : new int[] {-1, 4, Edges.LOW, Edges.HIGH}) {
             e.due("ray, colour " + out, x.ray(0, out, 450, 2), BAD_RAY);
         }
+        // INSIDE of 600 is 406, of COLOUR 3 that less 4.
+        e.due("ray(1, 3, 600, 0)", x.ray(1, 3, 600, 0), 1392);
+        e.due("ray(1, 3, 600, 1)", x.ray(1, 3, 600, 1), 1392);
+        e.due("ray(3, 3, 600, 1)", x.ray(3, 3, 600, 1), 3600 - 3384);
         e.says("A RAY that comes in at i (0 to 900)");
         e.due("i 0", x.ray(0, 0, 0, 0), 0);
         e.due("i 900", x.ray(0, 0, 900, 0), 824);
@@ -249,6 +255,21 @@ public final class EdgesDropsTest {
         e.due("none at a mirror", x.map(1, 0, 90), 0);
     }
 
+    private static void mapColours() {
+        e.says("THE MAP of k and a COLOUR");
+        SunRings x = Edges.unbending(0);
+        x.rule(2, 0);
+        x.rule(0, 20);
+        // Of COLOUR 3 a ray at i is turned by twice 6 hundredths of i, cut: those from 835 on by 100 to 108,
+        // 25 times the sum of m (180 - m) for m from 0 to 13; of COLOUR 0 none is turned.
+        e.due("COLOUR 3 at 10", x.map(0, 3, 10), 25L * 15561);
+        e.due("COLOUR 0 at 10", x.map(0, 0, 10), 0);
+        // Of COLOUR 1 by twice 2 hundredths: those from 750 on by 30 to 36, of COLOUR 2 none by 80.
+        e.due("COLOUR 1 at 3", x.map(0, 1, 3), 25L * (180 * 465 - 9455));
+        e.due("COLOUR 2 at 8", x.map(0, 2, 8), 0);
+        e.due("COLOUR 2 at 7", x.map(0, 2, 7) > 0 ? 1 : 0, 1);
+    }
+
     private static void bowLowestOfSeveral() {
         e.says("THE BOW stands at the degree of most light, of several the lowest");
         SunRings x = new SunRings();
@@ -430,6 +451,27 @@ public final class EdgesDropsTest {
         x.rule(1, -35);
         e.due("bow 2, beside", x.bow(2, 0, 0, 0), 134);
         e.due("nothing between neighbours", x.dark(1, 2), 0);
+    }
+
+    /** The bows of a and b, side by side, with a dark row next to them: none of it lies between them. */
+    private static void beyond(int squash, int[] mirrors, int[] bows, int[] darkFromTo) {
+        SunRings x = new SunRings();
+        x.rule(2, 9);
+        x.rule(1, squash);
+        for (int n = 0; n < 2; n++) {
+            e.due("SQUASH " + squash + ", bow of " + mirrors[n], x.bow(mirrors[n], 0, 0, 0), bows[n]);
+            for (int degree = darkFromTo[0]; degree <= darkFromTo[1]; degree++) {
+                e.due("dark at " + degree, x.map(mirrors[n], 0, degree), 0);
+            }
+        }
+        e.due("SQUASH " + squash + ", dark", x.dark(mirrors[0], mirrors[1]), 0);
+        e.due("SQUASH " + squash + ", either way", x.dark(mirrors[1], mirrors[0]), 0);
+    }
+
+    private static void darkBeyond() {
+        e.says("that lies between their BOWS");
+        beyond(-93, new int[] {2, 5}, new int[] {147, 148}, new int[] {149, 151});
+        beyond(-59, new int[] {1, 5}, new int[] {132, 131}, new int[] {0, 130});
     }
 
     private static void darkNoAndBad() {

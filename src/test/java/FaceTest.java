@@ -2,10 +2,15 @@ import java.lang.reflect.Constructor;
 import java.lang.reflect.Field;
 import java.lang.reflect.Method;
 import java.lang.reflect.Modifier;
+import java.nio.file.Files;
+import java.nio.file.Path;
+import java.util.ArrayList;
 import java.util.Arrays;
 import java.util.List;
 import java.util.Set;
 import java.util.TreeSet;
+import java.util.regex.Matcher;
+import java.util.regex.Pattern;
 
 /** The public face is the document's, no more and no less (LANGUAGE.md 1 and 5). */
 public final class FaceTest {
@@ -31,6 +36,7 @@ public final class FaceTest {
                 "the class is public and final");
         checkMethods();
         checkFields();
+        checkText();
         Constructor<?>[] made = SunRings.class.getDeclaredConstructors();
         must(made.length == 1 && Modifier.isPublic(made[0].getModifiers()) && made[0].getParameterCount() == 0,
                 "one public constructor without arguments");
@@ -62,6 +68,30 @@ public final class FaceTest {
             for (Method m : inside.getDeclaredMethods()) {
                 must(!names.contains(m.getName()), m + " bears a public name");
             }
+        }
+    }
+
+    /** The document's own lines, names of arguments too, stand in the program in their order, each part under its name. */
+    private static void checkText() throws Exception {
+        String document = Files.readString(Path.of("../shared/DOC.md"));
+        String program = Files.readString(Path.of("src/main/java/SunRings.java"));
+        String face = document.substring(document.indexOf("```java"), document.indexOf("## Terms"));
+        List<String> due = new ArrayList<>(List.of("public final class SunRings {",
+                "public static final int BAD = -1, NO = -2, FULL = -3, NONE = -4;"));
+        for (String line : face.split("\n")) {
+            Matcher call = Pattern.compile("^ +(public [^=]*?(\\w+)\\([^)]*\\));$").matcher(line);
+            if (!call.find()) continue;
+            Matcher part = Pattern.compile("Ahead of the calls `" + call.group(2) + "`.* says: ---- (\\w+)\\.")
+                    .matcher(document);
+            if (part.find()) due.add("// ---- " + part.group(1));
+            due.add(call.group(1) + " {");
+        }
+        must(due.size() == 2 + 1 + METHODS.size() + 5, "lines of the document's face: " + due);
+        int at = 0;
+        for (String line : due) {
+            int next = program.indexOf(line, at);
+            must(next >= 0, "'" + line + "' stands behind the one ahead of it");
+            at = Math.max(at, next);
         }
     }
 
